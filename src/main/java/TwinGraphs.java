@@ -2,6 +2,7 @@
 public final class TwinGraphs {
     private static final int MOST_POINTS = 7;
     private static final int PLACES_OF_A_GRAPH = MOST_POINTS * MOST_POINTS;
+    private static final int PLACES = 2 * PLACES_OF_A_GRAPH;
     private static final int COLOUR_MASK = 3;
     private static final int REFUSED = -1;
     private static final int NOWHERE = -1;
@@ -10,7 +11,7 @@ public final class TwinGraphs {
     private final int orders;
 
     // Both {a, b} and {b, a} are held, so that no reader has to sort a pair first.
-    private final int[] colours = new int[2 * PLACES_OF_A_GRAPH];
+    private final int[] colours = new int[PLACES];
 
     // The order of the points that is being tried; only a search in progress gives it a meaning.
     private final int[] order = new int[MOST_POINTS];

@@ -211,9 +211,9 @@ public final class PromiseTests {
     private static void promise6() {
         TwinGraphs x = new TwinGraphs(4);
         paintPath(x, 0, 1, 0, 1, 2, 3);
-        paintPath(x, 1, 1, 2, 0, 3, 1);
-        // The layings are 2 0 3 1 and 1 3 0 2.
-        int[][] layings = {{2, 0, 3, 1}, {1, 3, 0, 2}};
+        paintPath(x, 1, 1, 1, 2, 0, 3);
+        // Neither laying turned back is a laying, so asking the wrong way round shows.
+        int[][] layings = {{1, 2, 0, 3}, {3, 0, 2, 1}};
         for (int a = 0; a < 4; a++) {
             for (int b = 0; b < 4; b++) {
                 for (int c = 0; c < 4; c++) {
