@@ -88,7 +88,7 @@ public final class TwinGraphs {
         if (!isGraph(graph) || !isPoint(a)) {
             return REFUSED;
         }
-        // Leaving every point where it is always fits, so a itself is never too small an answer.
+        // Leaving every point where it is always fits, so the answer is never greater than a.
         int least = a;
         startOrders();
         for (int tried = 0; tried < orders; tried++) {
