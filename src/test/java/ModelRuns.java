@@ -24,7 +24,7 @@ public final class ModelRuns {
         }
     }
 
-    /** The document in sets of orders: slow, and written without a look at the class. */
+    /** The document in lists of orders: slow, and with no code shared with the class. */
     private static final class Model {
         final int n;
         final int[][] colourOfPair = new int[2][64];
