@@ -79,7 +79,7 @@ final class Samples {
         return all.toString();
     }
 
-    /** All that can be seen of an object on n points: every colour, and what the questions answer. */
+    /** Every colour, and what the questions answer, so that a change that no colour shows would show too. */
     static String state(TwinGraphs x, int n) {
         StringBuilder all = new StringBuilder(colours(x, n));
         all.append("layings ").append(x.layings()).append(" laid");
