@@ -8,51 +8,58 @@ import java.util.TreeSet;
 
 // The public face of the document, whole and with nothing beside it.
 public final class FaceTest {
+    /** As reflection writes them: static, synchronized or a throws clause would show. */
     private static final Set<String> FACE = Set.of(
-        "TwinGraphs(int)",
-        "int paint(int,int,int,int)",
-        "int colour(int,int,int)",
-        "int layings()",
-        "int laid(int)",
-        "int canLay(int,int,int,int)",
-        "int symmetries(int)",
-        "int mirror(int,int)",
-        "long leastForm(int)",
-        "int copySwapped(int,int,int)");
-
-    private static int wrong = 0;
+        "public TwinGraphs(int)",
+        "public int TwinGraphs.paint(int,int,int,int)",
+        "public int TwinGraphs.colour(int,int,int)",
+        "public int TwinGraphs.layings()",
+        "public int TwinGraphs.laid(int)",
+        "public int TwinGraphs.canLay(int,int,int,int)",
+        "public int TwinGraphs.symmetries(int)",
+        "public int TwinGraphs.mirror(int,int)",
+        "public long TwinGraphs.leastForm(int)",
+        "public int TwinGraphs.copySwapped(int,int,int)");
 
     public static void main(String[] args) {
+        Checks.sentence("public final class TwinGraphs", FaceTest::theClass);
+        Checks.sentence("The public face", FaceTest::theFace);
+        Checks.sentence("The public face (it has no constants)", FaceTest::noFieldShows);
+        Checks.sentence("No private method bears the name of a public one", FaceTest::privateNames);
+        Checks.end();
+    }
+
+    private static void theClass() {
+        Checks.same("the class", TwinGraphs.class.toGenericString(), "public final class TwinGraphs");
+        Checks.holds("no parent but Object", TwinGraphs.class.getSuperclass() == Object.class);
+        Checks.due("interfaces", TwinGraphs.class.getInterfaces().length, 0);
+        Checks.due("classes inside", TwinGraphs.class.getDeclaredClasses().length, 0);
+    }
+
+    private static void theFace() {
         Set<String> seen = new TreeSet<>();
         for (Constructor<?> made : TwinGraphs.class.getDeclaredConstructors()) {
             if (!isPrivate(made)) {
-                seen.add((isPublic(made) ? "" : "not public: ") + "TwinGraphs" + types(made.getParameterTypes()));
+                seen.add(made.toString());
             }
         }
         for (Method method : TwinGraphs.class.getDeclaredMethods()) {
-            String face = method.getReturnType() + " " + method.getName() + types(method.getParameterTypes());
             if (!isPrivate(method)) {
-                seen.add((isPublic(method) ? "" : "not public: ") + face);
-            } else {
-                check(!isPublicName(method.getName()), "the private method " + face + " bears a public name");
+                seen.add(method.toString());
             }
         }
+        Checks.same("the face", seen.toString(), new TreeSet<>(FACE).toString());
+    }
+
+    private static void noFieldShows() {
         for (Field field : TwinGraphs.class.getDeclaredFields()) {
-            check(isPrivate(field), "the field " + field.getName() + " is not private");
-        }
-        check(seen.equals(FACE), "the face is " + seen + ", due is " + new TreeSet<>(FACE));
-        int kind = TwinGraphs.class.getModifiers();
-        check(Modifier.isPublic(kind) && Modifier.isFinal(kind), "the class is not public and final");
-        System.out.println(wrong == 0 ? "the face is as due" : wrong + " faults in the face");
-        if (wrong != 0) {
-            System.exit(1);
+            Checks.holds("the field " + field.getName() + " is private", isPrivate(field));
         }
     }
 
-    private static void check(boolean holds, String fault) {
-        if (!holds) {
-            wrong++;
-            System.out.println(fault);
+    private static void privateNames() {
+        for (Method method : TwinGraphs.class.getDeclaredMethods()) {
+            Checks.holds(method + " has a name of its own", !isPrivate(method) || !isPublicName(method.getName()));
         }
     }
 
@@ -60,19 +67,7 @@ public final class FaceTest {
         return Modifier.isPrivate(member.getModifiers());
     }
 
-    private static boolean isPublic(Member member) {
-        return Modifier.isPublic(member.getModifiers());
-    }
-
     private static boolean isPublicName(String name) {
-        return FACE.stream().anyMatch(face -> face.contains(" " + name + "("));
-    }
-
-    private static String types(Class<?>[] parameters) {
-        StringBuilder text = new StringBuilder("(");
-        for (Class<?> parameter : parameters) {
-            text.append(text.length() > 1 ? "," : "").append(parameter.getName());
-        }
-        return text.append(")").toString();
+        return FACE.stream().anyMatch(face -> face.contains("." + name + "("));
     }
 }

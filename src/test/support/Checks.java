@@ -27,6 +27,12 @@ final class Checks {
         }
     }
 
+    static void holds(String what, boolean holds) {
+        if (!holds) {
+            fault("does not hold: " + what);
+        }
+    }
+
     static void end() {
         System.out.println(wrong == 0 ? sentences + " tests, all as due" : wrong + " faults");
         if (wrong != 0) {
